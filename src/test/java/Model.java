@@ -2,6 +2,7 @@ import java.math.BigInteger;
 import java.util.ArrayList;
 import java.util.Comparator;
 import java.util.List;
+import java.util.Random;
 import java.util.TreeMap;
 
 /** The document once more, in the slowest and plainest way: every plan, every way and every set is tried. */
@@ -40,6 +41,27 @@ final class Model {
         int[] told;
         int[] from;
         int[] held;
+    }
+
+    /** Another PARISH by chance: small ones, some of many PERSONS and some of many NIGHTS, as every plan is tried. */
+    void invent(Random random) {
+        boolean manyPersons = random.nextInt(3) == 0;
+        boolean manyNights = !manyPersons && random.nextInt(3) == 0;
+        nights = manyPersons ? 1 + random.nextInt(3) : manyNights ? 8 + random.nextInt(5) : 1 + random.nextInt(6);
+        int count = manyPersons ? 6 + random.nextInt(3) : manyNights ? random.nextInt(5) : random.nextInt(6);
+        int most = random.nextInt(3) == 0 ? 20 : 8;
+        room = 1 + random.nextInt(random.nextBoolean() ? 60 : 12);
+        tooth = 1 + random.nextInt(random.nextBoolean() ? 40 : 10);
+        teeth = 1 + random.nextInt(random.nextBoolean() ? 20 : 4);
+        rule = random.nextInt(4);
+        pays = random.nextInt(100);
+        odds = random.nextInt(11);
+        persons.clear();
+        for (int p = 0; p < count; p++) {
+            int from = random.nextInt(6) == 0 ? random.nextInt(12) : random.nextInt(nights);
+            int dear = 1 + random.nextInt(random.nextBoolean() ? 9 : 2);
+            persons.add(new int[] {1 + random.nextInt(most), from, dear, random.nextInt(most + 1)});
+        }
     }
 
     String text() {

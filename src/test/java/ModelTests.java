@@ -25,7 +25,7 @@ public final class ModelTests {
     }
 
     private void run() {
-        invent();
+        model.invent(random);
         Checks.tell(x, model.text());
         askAll();
         for (int n = 0; n < ACTS && !model.persons.isEmpty(); n++) {
@@ -55,25 +55,6 @@ public final class ModelTests {
         x = new TeethingParish();
         calls = 0;
         Checks.tell(x, model.text());
-    }
-
-    private void invent() {
-        boolean many = random.nextInt(3) == 0;
-        boolean long12 = !many && random.nextInt(3) == 0;
-        model.nights = many ? 1 + random.nextInt(3) : long12 ? 8 + random.nextInt(5) : 1 + random.nextInt(6);
-        int persons = many ? 6 + random.nextInt(3) : long12 ? random.nextInt(5) : random.nextInt(6);
-        int most = random.nextInt(3) == 0 ? 20 : 8;
-        model.room = 1 + random.nextInt(random.nextBoolean() ? 60 : 12);
-        model.tooth = 1 + random.nextInt(random.nextBoolean() ? 40 : 10);
-        model.teeth = 1 + random.nextInt(random.nextBoolean() ? 20 : 4);
-        model.rule = random.nextInt(4);
-        model.pays = random.nextInt(100);
-        model.odds = random.nextInt(11);
-        for (int p = 0; p < persons; p++) {
-            int from = random.nextInt(6) == 0 ? random.nextInt(12) : random.nextInt(model.nights);
-            int dear = 1 + random.nextInt(random.nextBoolean() ? 9 : 2);
-            model.persons.add(new int[] {1 + random.nextInt(most), from, dear, random.nextInt(most + 1)});
-        }
     }
 
     private void due(String call, long got, long want) {

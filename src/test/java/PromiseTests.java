@@ -51,9 +51,41 @@ public final class PromiseTests {
         for (int what = 0; what <= 11; what++) {
             due("1: count of nothing", x.count(what), 0);
         }
-        due("1: all", x.all(), -2);
-        due("1: person", x.person(0, 0), -2);
         due("1: NONE", TeethingParish.NONE, -1);
+        withoutParish(x);
+        Checks.tell(x, A);
+        x.parish();
+        withoutParish(x);
+    }
+
+    /** Every call that needs a PARISH, with arguments that would be good with one. */
+    private static void withoutParish(TeethingParish x) {
+        Checks.fill(x, 0, 0, 0, 0);
+        Checks.fill(x, 1, 0);
+        int[] ofNothing = {x.all(), x.worst(), x.crowded(), x.feast(), x.paid(), x.quiet(), x.kept(), x.idle(), x.last(),
+            x.wide(), x.regret(), x.spoons(), x.lonely(), x.least(), x.rule(), x.proof(), x.pairs(), x.undo(), x.anew()};
+        for (int i = 0; i < ofNothing.length; i++) {
+            due("1: without PARISH, the call " + i, ofNothing[i], -2);
+        }
+        int[] ofOne = {x.gives(0), x.given(0), x.waits(0), x.left(0), x.bears(0), x.groans(0), x.holds(0), x.cut(0),
+            x.big(0), x.suits(0), x.gap(0), x.without(0), x.blocks(0), x.when(1), x.mild(0), x.costs(0), x.plan(0),
+            x.room(0), x.by(0), x.groan(0), x.tempts(0), x.bearer(0), x.kinder(0), x.nights(0), x.late(0), x.widen(1)};
+        for (int i = 0; i < ofOne.length; i++) {
+            due("1: without PARISH, the call of one number " + i, ofOne[i], -2);
+        }
+        int[] ofRows = {x.whose(1), x.fits(1), x.ask(1), x.leaves(1), x.fair(1), x.leave(1), x.whose(2), x.fair(2),
+            x.leave(2)};
+        for (int i = 0; i < ofRows.length; i++) {
+            due("1: without PARISH, the call of a row " + i, ofRows[i], -2);
+        }
+        int[] ofMore = {x.person(0, 0), x.share(0, 0), x.rests(0, 1), x.rest(0, 1), x.holding(0, 1, 0, 0), x.ache(0, 1),
+            x.comes(0, 0), x.drawn(0, 0), x.luck(0, 1, 0)};
+        for (int i = 0; i < ofMore.length; i++) {
+            due("1: without PARISH, the call of several numbers " + i, ofMore[i], -2);
+        }
+        due("1: ways without PARISH", x.ways(), -2);
+        due("1: born without PARISH", x.born(0, 0), -2);
+        due("1: mean without PARISH", x.mean(0), -2);
     }
 
     private static void promises2And3() {
@@ -107,7 +139,13 @@ public final class PromiseTests {
         due("4: one LINE", x.count(9), 1);
         due("4: no PARISH in place of one", x.parish(), 0);
         due("4: there is none", x.all(), -2);
-        due("4: no nights", x.count(0), 0);
+        Checks.tell(x, A);
+        Checks.tell(x, "parish nights 1 room 1 tooth 1 teeth 1 rule 1 pays 1 odds 1;person ache 1 from 1 dear 12");
+        x.ache(0, 5);
+        due("4: no PARISH in place of one with acts", x.parish(), 0);
+        for (int what = 0; what <= 10; what++) {
+            due("4: count of nothing " + what, x.count(what), 0);
+        }
         due("4: blanks alone", Checks.tell(x, " \n \n"), 0);
         due("4: no blanks", Checks.tell(x, "parishnights1room60tooth40teeth20rule3pays99odds10;"
                 + "personache20from11dear9bears20;"), -4);
@@ -151,6 +189,13 @@ public final class PromiseTests {
         fault("parish room 1", 1, 7);
         fault("parish night 1", 1, 7);
         fault("parish nightss 1", 1, 7);
+        fault("parish nightsz 1", 1, 7);
+        fault("parish nightsa 1", 1, 7);
+        fault("parish zights 1", 1, 7);
+        fault("parish `nights 1", 1, 7);
+        fault("parish nights{ 1", 1, 13);
+        fault("parish nights /1", 1, 14);
+        fault("parish nights 1:", 1, 15);
         fault("Parish", 1, 0);
         fault("parish\tnights", 1, 6);
         fault("parish nights 1.", 1, 15);
@@ -172,6 +217,10 @@ public final class PromiseTests {
         fault("parish nights 1 room 1 tooth 1 teeth 1 rule 0 pays 0 odds 11", 2, 58);
         fault("parish nights 1 room 1 tooth 1 teeth 1 rule 0 pays 0 odds 1", 1, 59);
         int n = FIRST.length();
+        fault(FIRST.replace(';', ','), 1, n - 1);
+        fault(FIRST.replace(';', '.'), 1, n - 1);
+        fault(FIRST.replace(';', ':'), 1, n - 1);
+        fault(FIRST + "person ache 1 from 0 dear 1 bears 1. person", 1, n + 35);
         fault(FIRST + "parish", 1, n);
         fault(FIRST + ";", 1, n);
         fault(FIRST + " people", 1, n + 1);
@@ -266,6 +315,14 @@ public final class PromiseTests {
                 + "person ache 6 from 1 dear 1 bears 0;");
         due("14: the first of several", y.worst(), 1);
         due("15: crowded later", y.crowded(), 1);
+        y.comes(1, 2);
+        y.ache(0, 2);
+        y.comes(2, 2);
+        y.ache(0, 1);
+        due("14: nobody", y.worst(), -1);
+        TeethingParish z = Checks.told("parish nights 1 room 1 tooth 1 teeth 1 rule 0 pays 0 odds 0;"
+                + "person ache 1 from 0 dear 1 bears 0;person ache 1 from 0 dear 1 bears 0;");
+        due("14: one ache alone", z.worst(), 1);
     }
 
     private static void promises16To19() {
@@ -509,6 +566,12 @@ public final class PromiseTests {
         TeethingParish z = Checks.told(NO_PERSON);
         Checks.fill(z, 0, 0, 2, 0);
         suspects(z, 0, 256, 1, -1, 1);
+        TeethingParish w = Checks.told("parish nights 1 room 20 tooth 1 teeth 20 rule 0 pays 0 odds 0;"
+                + "person ache 20 from 0 dear 1 bears 0;");
+        Checks.fill(w, 0, 0);
+        suspects(w, 0, 1 + 256, 2, 0, 1);
+        Checks.fill(w, 0, 0, 0, 20);
+        suspects(w, 0, 256, 1, -1, 1);
     }
 
     private static void suspects(TeethingParish x, int slot, int whose, int fits, int ask, int leaves) {
@@ -794,6 +857,16 @@ public final class PromiseTests {
         due("71: it is kept", x.back(2), 0);
         due("71: from", x.person(0, 1), 3);
         due("71: the third has nothing", x.back(1), -6);
+        x.anew();
+        x.comes(2, 7);
+        x.ache(1, 12);
+        x.comes(1, 8);
+        x.back(0);
+        due("71: its own acts", x.undo(), 0);
+        due("71: its own acts are taken back", x.person(0, 0), 6);
+        due("71: no others", x.person(1, 0), 5);
+        due("71: no others", x.person(2, 1), 1);
+        due("71: no others", x.person(1, 1), 0);
         TeethingParish y = new TeethingParish();
         due("70: no PARISH is kept", y.image(1), 0);
         Checks.tell(y, A);
