@@ -232,6 +232,7 @@ public final class PromiseTests {
         fault(FIRST + "person ache 1 from 0 dear 10", 2, n + 26);
         fault(FIRST + "person ache 1 from 0 dear 1 bears 21", 2, n + 34);
         fault(FIRST + "person ache 1 from 0 dear 1 bears 1 person", 1, n + 36);
+        cutOff();
         String eight = FIRST + "person ache 1 from 0 dear 1 bears 1;".repeat(8);
         TeethingParish y = new TeethingParish();
         due("5: eight PERSONS", Checks.tell(y, eight), 9);
@@ -239,6 +240,27 @@ public final class PromiseTests {
         fault(eight + " person", 3, eight.length() + 1);
         fault(eight + "person ache 99", 3, eight.length());
         fault(eight + "ache", 1, eight.length());
+    }
+
+    /** What stood behind the end of the TAPE is not read. */
+    private static void cutOff() {
+        TeethingParish x = new TeethingParish();
+        for (int n = 0; n < A.length(); n++) {
+            TeethingParish y = new TeethingParish();
+            Checks.feed(x, A);
+            x.end(n);
+            Checks.feed(y, A.substring(0, n));
+            due("5: parish of the first " + n, x.parish(), y.parish());
+            due("5: fault of the first " + n, x.fault(0), y.fault(0));
+            due("5: place of the first " + n, x.fault(1), y.fault(1));
+            x = new TeethingParish();
+        }
+        due("5: a full TAPE of blanks", Checks.tell(x, " ".repeat(700)), 0);
+        due("5: a full TAPE", Checks.tell(x, FIRST + " ".repeat(700 - FIRST.length())), 1);
+        fault("p".repeat(700), 1, 0);
+        fault("parish nights " + "0".repeat(686), 2, 14);
+        fault("parish nights " + "0".repeat(685) + "1", 1, 700);
+        fault("parish" + " ".repeat(694), 1, 700);
     }
 
     private static void promise6() {
@@ -458,6 +480,15 @@ public final class PromiseTests {
         due("37: one of two", y.least(), 10);
         due("39: two ways", y.ways(), 2);
         row("38: NONE first", y::plan, -1, 0);
+        TeethingParish roomy = Checks.told("parish nights 1 room 5 tooth 10 teeth 1 rule 0 pays 0 odds 0;"
+                + "person ache 5 from 0 dear 2 bears 0;person ache 5 from 0 dear 2 bears 0;");
+        due("39: two ways", roomy.ways(), 2);
+        due("40: room for both", roomy.room(0), 10);
+        due("39: two ways as before", roomy.ways(), 2);
+        due("40: room for one", roomy.room(10), 5);
+        due("39: two ways still", roomy.ways(), 2);
+        row("38: as before", roomy::plan, -1, 0);
+        due("37: as before", roomy.least(), 10);
         // Night by night the earlier one of those who cost alike.
         TeethingParish z = Checks.told("parish nights 3 room 5 tooth 5 teeth 9 rule 0 pays 0 odds 0;"
                 + "person ache 5 from 0 dear 2 bears 0;person ache 5 from 0 dear 2 bears 0;"
