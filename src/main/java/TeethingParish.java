@@ -1627,6 +1627,7 @@ public final class TeethingParish {
 
         private void search(int room) {
             int everybody = (1 << parish.persons) - 1;
+            int mostGiven = parish.tooth * parish.teeth;
             for (int set = 0; set <= everybody; set++) {
                 worth[set] = UNREACHED;
                 count[set] = 0;
@@ -1640,12 +1641,15 @@ public final class TeethingParish {
                         come |= 1 << person;
                     }
                 }
+                int mostByNow = Math.min(mostGiven, room * (night + 1));
                 // Each set comes ahead of the sets inside it, which so still stand as they were the NIGHT before.
                 for (int set = come; set > 0; set = (set - 1) & come) {
-                    giveInNight(set, night, room);
+                    if (aches[set] <= mostByNow) {
+                        giveInNight(set, night, room);
+                    }
                 }
             }
-            takeLeast(everybody, parish.tooth * parish.teeth);
+            takeLeast(everybody);
         }
 
         /** The best of all ways to have a set given by the end of a NIGHT: any part of it gives in that NIGHT. */
@@ -1670,11 +1674,11 @@ public final class TeethingParish {
             count[set] = bestCount;
         }
 
-        private void takeLeast(int everybody, int mostGiven) {
+        private void takeLeast(int everybody) {
             long best = UNREACHED;
             ways = 0;
             for (int set = 0; set <= everybody; set++) {
-                if (worth[set] >= UNREACHED || aches[set] > mostGiven) {
+                if (worth[set] >= UNREACHED) {
                     continue;
                 }
                 long candidate = worth[set] + ((long) neverGiven[everybody ^ set] << ROW_BITS);
