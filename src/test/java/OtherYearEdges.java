@@ -99,19 +99,21 @@ final class OtherYearEdges {
     }
 
     private static void by() {
+        String longest = Edges.head(3, 5, 40, 20, 1, 0, 0) + Edges.one(5, 1, 1, 0) + Edges.one(5, 0, 1, 0)
+                + Edges.one(5, 0, 9, 0);
         Edges.promise(41, "by a RULE (0 .. 3) in place of the one told. -2: there is none such, no PARISH.");
         Edges.refusedOutside("by", Edges.told(Edges.A), TeethingParish::by, 0, 3);
         Edges.refusedWithoutParish("by(0)", x -> x.by(0));
         due("by(3) of nobody", Edges.told(Edges.NO_PERSON).by(3), 0);
         // Who has come earlier and is dearer waits for another one, but by the last RULE.
-        TeethingParish last = Edges.told(Edges.head(3, 5, 40, 20, 1, 0, 0) + Edges.one(5, 1, 1, 0) + Edges.one(5, 0, 1, 0)
-                + Edges.one(5, 0, 9, 0));
+        TeethingParish last = Edges.told(longest);
         int[] borne = {90, 90, 90, 50};
         for (int rule = 0; rule < 4; rule++) {
             due("by(" + rule + ")", last.by(rule), borne[rule]);
         }
         Edges.promise(42, "The RULE by which it is least, the least of several. -2: there is no PARISH.");
         due("the last one", last.rule(), 3);
+        due("the last one, which is told", Edges.told(longest.replace("rule 1", "rule 3")).rule(), 3);
         due("all are alike", Edges.told(IN_TURN.replace("rule 0", "rule 3")).rule(), 0);
         due("of nobody", Edges.told(Edges.NO_PERSON).rule(), 0);
         due("the second alone", Edges.told(Edges.head(2, 5, 9, 9, 0, 0, 0) + Edges.one(2, 0, 1, 0)
@@ -154,6 +156,10 @@ final class OtherYearEdges {
             due("tempts(" + rule + ")", x.tempts(rule), tempted[rule]);
             due("tempts(" + rule + ") of nobody", Edges.told(Edges.NO_PERSON).tempts(rule), 0);
         }
+        TeethingParish told0 = Edges.told(Edges.head(2, 20, 40, 20, 0, 0, 0) + Edges.one(5, 0, 1, 0)
+                + Edges.one(20, 0, 1, 0));
+        due("who BEARS nothing by the RULE told", told0.tempts(1), 1);
+        due("who BEARS by the RULE told alone", told0.groan(1), -1);
         Edges.promise(45, "-2: there is no PARISH.");
         Edges.refusedWithoutParish("proof()", TeethingParish::proof);
         due("all but one", x.proof(), 1 + 4 + 8);
@@ -330,6 +336,10 @@ final class OtherYearEdges {
         for (int[] each : due) {
             due("luck(" + each[0] + ", " + each[1] + ", 0)", x.luck(each[0], each[1], 0), each[2]);
         }
+        // By the seeds 0 to 19 the child is born in NIGHT 0 in 9 years, in NIGHT 1 in 5: then the second comes too late.
+        TeethingParish two = Edges.told(Edges.head(2, 5, 40, 20, 0, 0, 5) + Edges.one(5, 0, 1, 0).repeat(2));
+        due("who GIVES with the child", two.luck(0, 20, 0), 14);
+        due("who GIVES in the NIGHT behind", two.luck(0, 20, 1), 9);
         due("from the greatest seed", x.luck(2_000_000_000, 1, 0), 0);
         due("seven from the greatest seed", x.luck(2_000_000_000, 7, 0), 1);
         due("twenty from the greatest seed", x.luck(2_000_000_000, 20, 0), 2);

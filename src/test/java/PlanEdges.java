@@ -84,6 +84,7 @@ final class PlanEdges {
         // 2 bear as much as 1 of them dearer: ahead of him, NONE is first all the same.
         planned(Edges.head(1, 4, 4, 1, 0, 0, 0) + Edges.one(4, 0, 1, 0) + Edges.one(2, 0, 1, 0).repeat(2), 4, 2, -1, 0, 0);
         planned(Edges.head(1, 4, 4, 1, 0, 0, 0) + Edges.one(2, 0, 1, 0).repeat(2) + Edges.one(4, 0, 1, 0), 4, 2, -1, -1, 0);
+        planned(Edges.head(1, 8, 40, 20, 0, 0, 0) + Edges.one(1, 0, 1, 0).repeat(8), 0, 1, 0, 0, 0, 0, 0, 0, 0, 0);
         due("in the last NIGHT", Edges.told(Edges.head(12, 1, 1, 1, 0, 0, 0) + Edges.one(1, 11, 1, 0)).plan(0), 11);
         due("in none", Edges.told(Edges.MOST).plan(7), -1);
         Edges.refusedWithoutPerson("plan", TeethingParish::plan);
@@ -239,6 +240,10 @@ final class PlanEdges {
         asked(Edges.A, 3, 3, row(1, 1, 1, 2), 0, 0, -1, 0);
         asked(Edges.NO_PERSON, 0, 0, row(), 256, 1, -1, 1);
         asked(Edges.MOST, 3, 3, new long[60], 511, 9, -1, 9);
+        String lastNight = Edges.head(12, 20, 20, 1, 0, 0, 0) + Edges.one(20, 11, 1, 0);
+        asked(lastNight, 0, 0, row(), 257, 2, 11, 1);
+        asked(lastNight, 0, 0, row(10, 0), 257, 2, 11, 1);
+        asked(lastNight, 0, 0, row(11, 1), 256, 1, -1, 1);
     }
 
     private static void whose() {
